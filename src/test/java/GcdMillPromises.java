@@ -490,7 +490,7 @@ public final class GcdMillPromises {
     private static void root() {
         promise = 19;
         int[][] cases = {{26, 3, 2}, {27, 3, 3}, {28, 3, 3}, {0, 1, 0}, {0, 9, 0}, {0, HIGH, 0}, {1, HIGH, 1}, {7, 1, 7}, {7, 3, 1}, {8, 3, 2},
-            {8, 4, 1}, {HIGH, 31, 1}, {HIGH, 30, 2}, {HIGH, HIGH, 1}, {HIGH, 2, 46340}, {81, 4, 3}, {80, 4, 2}};
+            {8, 4, 1}, {HIGH, 31, 1}, {HIGH, 30, 2}, {HIGH, HIGH, 1}, {HIGH, 2, 46340}, {81, 4, 3}, {80, 4, 2}, {9, 3, 2}, {10, 3, 2}};
         for (int[] one : cases) {
             GcdMill mill = mill(one[0]);
             due("root", mill.root(1, 0, one[1]), 0);
