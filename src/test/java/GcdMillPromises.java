@@ -105,7 +105,8 @@ public final class GcdMillPromises {
 
     private static String outText(GcdMill mill) {
         StringBuilder text = new StringBuilder();
-        for (int k = 0; k < mill.count(3); k++) {
+        int count = mill.count(3);
+        for (int k = 0; k < count; k++) {
             text.append((char) mill.octet(k));
         }
         return text.toString();
@@ -662,7 +663,7 @@ public final class GcdMillPromises {
             due("read " + one[0], readOf(mill, one[0]), "0 " + one[1] + " 0");
         }
         due("0 has no sign", readOf(mill, "-0") + " " + mill.sign(0), "0 0 0 0");
-        readOf(mill, "-42");
+        mill = mill(-42);
         String[] bad = {"", "-", "--1", "1-", "+1", " 1", "1 ", "1a", "/", ":", "1.0", "12" + (char) 0, "" + (char) 178, "1" + (char) 0xB0 + "2"};
         for (String one : bad) {
             due("read " + one, readOf(mill, one), "2 -42 0");
@@ -674,7 +675,7 @@ public final class GcdMillPromises {
         due("2 ahead of 1", readOf(mill, "9".repeat(999) + "x"), "2 -42 0");
         mill.end(0);
         feedText(mill, "17");
-        due("none", mill.read(2) + mill.read(-1), 6);
+        due("none", mill.read(3) + mill.read(-1), 6);
         due("the tape is there with 3", mill.count(2), 2);
         due("read", mill.read(0), 0);
         due("then", get(mill, 0) + " " + mill.count(2), "17 0");
