@@ -24,6 +24,7 @@ public final class GcdMillEdges {
         answersOfTerms();
         nothingIsChanged();
         mayBeOne();
+        actsBehindOthers();
         quotientsOfTerms();
         factorsOfTerms();
         lehmerOfTerms();
@@ -388,6 +389,46 @@ public final class GcdMillEdges {
         });
     }
 
+    private static void actsBehindOthers() {
+        test("Terms: what an act leaves in no register is nothing to the next one", () -> {
+            GcdMill mill = wide(2, FULL.negate(), 12345, 0, 0, 0);
+            mill.bezout(2, 3, 4, 0, 1);
+            set(mill, 0, 5);
+            mill.clear(1);
+            due("bezout", mill.bezout(2, 3, 4, 0, 1) + " " + numbers(mill), "0 5 0 5 1 0");
+            due("bezout", mill.bezout(2, 3, 4, 1, 0) + " " + numbers(mill), "0 5 0 5 0 1");
+            due("bezout", mill.bezout(2, 3, 4, 1, 1) + " " + numbers(mill), "0 5 0 0 1 0");
+            set(mill, 2, FULL);
+            mill.isqrt(3, 2);
+            due("isqrt of 0", mill.isqrt(3, 1) + " " + get(mill, 3), "0 0");
+            mill.root(3, 2, 5);
+            due("root of 0", mill.root(3, 1, 5) + " " + get(mill, 3), "0 0");
+            due("root of 5", mill.root(3, 0, 2) + " " + get(mill, 3), "0 2");
+        });
+        test("Terms: a refused act is nothing to the next one", () -> {
+            GcdMill mill = wide(2, FULL, -7, 2, 0, 0);
+            mill.multiply(3, 0, 0);
+            mill.add(3, 0, 2);
+            mill.shift(3, 0, 1);
+            mill.isqrt(3, 1);
+            due("add", mill.add(3, 1, 2) + " " + get(mill, 3), "0 -5");
+            due("negate", mill.negate(3, 4) + " " + get(mill, 3), "0 0");
+            due("shift", mill.shift(3, 1, -1) + " " + get(mill, 3), "0 -4");
+            due("divide", mill.divide(3, 4, 1, 2) + " " + numbers(mill), "0 " + written(FULL, -7, 2, -4, 1));
+            due("pushLimb", mill.pushLimb(4, 3) + " " + get(mill, 4), "0 4294967299");
+        });
+        test("Terms: registers that had more LIMBS have fewer then", () -> {
+            GcdMill mill = wide(3, greatest(3), 5, 3, 0);
+            mill.negate(3, 0);
+            due("add", mill.add(3, 1, 2) + " " + get(mill, 3) + " " + mill.length(3), "0 8 1");
+            mill.negate(3, 0);
+            due("inverse", mill.inverse(3, 1, 2) + " " + get(mill, 3) + " " + mill.length(3), "0 2 1");
+            mill.negate(3, 0);
+            due("gcdLehmer", mill.gcdLehmer(3, 1, 2) + " " + get(mill, 3) + " " + mill.length(3), "0 1 1");
+            due("pushLimb", mill.pushLimb(3, 4) + " " + get(mill, 3), "0 4294967300");
+        });
+    }
+
     private static void quotient(Object a, Object b, Object q, Object m) {
         done(mill -> mill.divide(2, 3, 0, 1), written(a, b, q, m), a, b, 9, 9);
     }
@@ -432,6 +473,17 @@ public final class GcdMillEdges {
             quotient(FULL.negate(), two(32), two(32).negate(), 1);
             quotient(two(63), two(32), two(31), 0);
             quotient(FULL, 4294967297L, 4294967295L, 0);
+        });
+        test("Terms: quotients that are guessed too great from the highest LIMBS", () -> {
+            String[][] cases = {{"80000000fffffffe00000000", "80000000ffffffff"}, {"80000000000000000000000000000000", "ffffffff00000001"},
+                {"7fffffff800000010000000000000000", "800000008000000200000005"}, {"80000000000000000000000300000000", "200000000000000000000001"},
+                {"fffffffffffffffeffffffffffffffff", "ffffffffffffffffffffffff"}, {"ffffffff00000000000000000000", "ffffffffffff"}};
+            for (String[] one : cases) {
+                BigInteger a = new BigInteger(one[0], 16);
+                BigInteger b = new BigInteger(one[1], 16);
+                GcdMill mill = wide(4, a, b, 0, 0);
+                due("divide " + one[0], mill.divide(2, 3, 0, 1) + " " + get(mill, 2) + " " + get(mill, 3), written(0, a.divide(b), a.mod(b)));
+            }
         });
     }
 
@@ -518,6 +570,23 @@ public final class GcdMillEdges {
         test("LEHMER: numbers whose quotients are all 1", () -> {
             // Fibonacci's numbers 120 and 119: the loop has every part but a STEP of its own
             steps(3, "5358359254990966640871840", "3311648143516982017180081", 1, 0);
+        });
+        test("LEHMER: q is (U + A) DIV (V + C) and must be (U + B) DIV (V + D)", () -> {
+            // pairs at which a sign that is wrong there gives other STEPS or another DIVISOR
+            steps(2, 842955702395920L, 400071263103727L, 1, 0);
+            steps(2, 361966869035506L, 106744502603574L, 2, 0);
+            steps(2, 354105758135227L, 327915989177222L, 1, 0);
+            steps(2, 331353012588438L, 9828644124L, 6, 1);
+            steps(2, 597003239785L, 596912219309L, 1, 1);
+            steps(2, 213192113164865L, 20516927273376L, 1, 0);
+            steps(2, 421348695638576L, 121679104346L, 2, 0);
+            steps(2, 513031402117184L, 12295043220L, 4, 1);
+            steps(2, "16150794106880616443", "1221711044809771577", 1, 1);
+        });
+        test("LEHMER: the loop goes on with u, v that it made", () -> {
+            steps(3, "65939564620411438311223860567", "32152651266786924749045947099", 1, 1);
+            steps(3, "2625419151170880112522016595", "63596685530950835240241242757", 9, 0);
+            steps(3, "32090658203549320921517172487", "36481543737412595490569911316", 1, 1);
         });
     }
 
