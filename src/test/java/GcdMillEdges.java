@@ -4,7 +4,8 @@ import java.util.function.ToIntFunction;
 
 /**
  * A test of its own for each sentence of the document that names a boundary case: too small, too
- * large, empty, full, a wrap-around, a refused call. What is due is written out by hand.
+ * large, empty, full, a wrap-around, a refused call. What is due is written out, and only for the
+ * widest numbers worked out by BigInteger.
  */
 public final class GcdMillEdges {
     private static final int LOW = Integer.MIN_VALUE;
